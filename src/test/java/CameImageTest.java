@@ -29,9 +29,14 @@ public final class CameImageTest {
         DUE.is("24: one came whom it does not tell", x.came(3), 1);
         Due.sheet(x, 0, 0, 0, 2, 0, 0, 2);
         DUE.is("24: a part of the HOURS", x.came(0), KitchenTable.NONE);
+        x.sheet(0, 0, 1);
+        DUE.is("24: one HOUR", x.came(0), KitchenTable.NONE);
+        x.cell(0, 0, 1);
+        DUE.is("24: one HOUR", x.came(0), 0);
         x.person(4, 24, 0);
         x.person(0, 4, 0);
         x.person(0, 2, 0);
+        x.cell(0, 0, 0);
         DUE.is("24: two come in 0", x.came(0), 0);
         Due.sheet(x, 1, 2, 24, 2, 16, 0, 30);
         DUE.is("24: bits", x.came(1), KitchenTable.NONE);

@@ -88,6 +88,10 @@ public final class OrdersTest {
         odds(x, 0, 1, 0, 1);
         DUE.is("22: BAD though there are none", x.odds(0, 0, 0), KitchenTable.NO);
         DUE.is("22: no mark came", x.count(2), 3);
+        x = with(2);
+        x.mark(1, 0);
+        odds(x, 1, 0, 1, 1);
+        odds(x, 0, 1, 0, 1);
         DUE.is("22: of none", new KitchenTable().odds(0, 1, 0), KitchenTable.NO);
     }
 

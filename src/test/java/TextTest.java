@@ -6,6 +6,7 @@ public final class TextTest {
         feed();
         faults();
         nesting();
+        behindAnother();
         full();
         force();
         values();
@@ -91,6 +92,19 @@ public final class TextTest {
         fault("do 1 ; care 2;", 7);
         fault("do take 1;", 3);
         fault("DO 1;", 0);
+        for (String word : new String[] {"asked", "told", "hour", "who", "temper", "thing"}) {
+            good("do " + word + ";take 0;care 0;");
+            fault("do 1 " + word + ";", 5);
+            fault("do x" + word.substring(1) + ";", 3);
+            fault("do " + word.substring(1) + ";", 3);
+            fault("do " + word.substring(0, word.length() - 1) + "x;", 3);
+        }
+        fault("xo 1;", 0);
+        fault("do 1;xake 1;", 5);
+        fault("do 1;take 1;xare 1;", 12);
+        fault("do 1 xr 1;", 5);
+        fault("do 1 xnd 1;", 5);
+        fault("do xot 1;", 3);
     }
 
     private static void nesting() {
@@ -108,6 +122,38 @@ public final class TextTest {
         fault("do ((((((1;take 12345", 8);
         good("do not not not not -1 < -2;take (1)*(2);care (-1)+(-(2));");
         good("do not not not not not 1 < 2 and -----1 = 3;take 0;care 0;");
+    }
+
+    /** What was on the tape before, or was read of a text till its fault, is forgotten. */
+    private static void behindAnother() {
+        KitchenTable x = new KitchenTable();
+        DUE.is("7: a long one", Due.text(x, "do 9999; take 9999; care 9999; 1"), -131);
+        DUE.is("7: no digits behind the end", Due.text(x, "do 9"), -104);
+        DUE.is("7: no letters behind the end", Due.text(x, "do 1+1; ta"), -108);
+        DUE.is("7: good", Due.text(x, "do thing = 2; take 0; care 0;"), 1);
+        x.force(1);
+        x.person(47, 1, 0);
+        DUE.is("7: only what was read of it", x.things(1), 0);
+        DUE.is("7: only what was read of it", x.done(2, 0), 1);
+        DUE.is("7: only what was read of it", x.done(0, -1), 0);
+
+        StringBuilder bytes = new StringBuilder();
+        for (int i = 0; i < 160; i++) {
+            bytes.append('1');
+        }
+        fault(bytes.toString(), 0);
+        fault("do 1; take 0; care 0;" + bytes.substring(21), 21);
+        fault(bytes.toString().replace('1', 'z'), 0);
+        fault(bytes.toString().replace('1', ' '), 160);
+        fault(bytes.toString().replace('1', '\n'), 160);
+        good("do 1; take 0; care 0;" + bytes.substring(21).replace('1', ' '));
+        StringBuilder sum = new StringBuilder("do 1; take 0; care 0");
+        while (sum.length() < 157) {
+            sum.append("+1");
+        }
+        fault(sum.toString(), sum.length());
+        good(sum + ";");
+        fault(sum.substring(0, 158) + "+1", 160);
     }
 
     private static void full() {
@@ -221,6 +267,8 @@ public final class TextTest {
         DUE.rule(x, "do 0; take 0; care asked + 10 * told + thing * hour + 50 * who + 50 * temper;");
         // THING 2: asks 1, tells 3, hour 48: 1 + 30 + 96 is bound to 99; THING 1: asks 2, tells 0: 2 + 48.
         DUE.is("names of care", x.harm(), 99 + 50);
+        x.person(47, 1, 9);
+        DUE.is("care is for nobody: who, temper 0", x.harm(), 99 + 50);
         DUE.rule(x, "do 0; take 0; care 2 - thing * 2;");
         DUE.is("care is 0 at least", x.harm(), 0);
         DUE.rule(x, "do 0; take 0; care asked * 40 + told;");
