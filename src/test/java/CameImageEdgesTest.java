@@ -269,7 +269,8 @@ public final class CameImageEdgesTest {
         }
         x.mark(0, 1);
         DUE.is("Promise 25: one", x.image(), 1);
-        while (x.mark(1, 0) > 0) {
+        for (int marks = 2; marks <= 20; marks++) {
+            DUE.is("Promise 20: a mark against the first", x.mark(1, 0), marks);
             DUE.is("Promise 21: against each other", x.orders(), 0);
         }
         DUE.is("Promise 20: 20", x.count(2), 20);
@@ -363,8 +364,8 @@ public final class CameImageEdgesTest {
     private static void countOfWhatIsFull() {
         KitchenTable x = full();
         x.force(5);
-        while (x.feed(255) > 0) {
-            DUE.holds("Promise 27: as feed() says", x.count(4) > 0);
+        for (int size = 1; size <= 160; size++) {
+            DUE.is("Promise 27: as feed() says", x.feed(255), size);
         }
         int[] due = {5, 10, 20, 6, 160, 5};
         for (int what = 0; what < due.length; what++) {

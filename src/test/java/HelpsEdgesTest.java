@@ -22,6 +22,7 @@ public final class HelpsEdgesTest {
         whoseIs0AndTen();
         whoseIsNone();
         whoseIsNotMonotonous();
+        whoseSkipsWhatIsMore();
         questionsKeepTheReads();
         DUE.end();
     }
@@ -263,6 +264,23 @@ public final class HelpsEdgesTest {
         x.note(2, 0, 0);
         DUE.is("Promise 19: with the TELLING it is done once, without it 47 times", x.whose(0, 0), 2);
         DUE.is("Promise 19: unread, HARM is 1", x.whose(0, 1), 0);
+        x = new KitchenTable();
+        x.person(1, 1, 120);
+        x.note(2, 0, 0);
+        DUE.is("Promise 19: any READS do it 47 times", x.whose(0, 1), 0);
+        DUE.is("Promise 19: any READS do it 47 times", x.whose(0, 45), 0);
+        DUE.is("Promise 19: any READS do it 47 times", x.whose(0, 0), NONE);
+        x.set(1, 0, 24);
+        x.set(0, 0, 24);
+        x.note(1, 20, 0);
+        DUE.is("Promise 19: READS 1 do it once, READS 2 never", x.whose(0, 0), 1);
+    }
+
+    private static void whoseSkipsWhatIsMore() {
+        KitchenTable x = new KitchenTable();
+        x.person(1, 1, 0);
+        x.note(1, 1, 0);
+        x.note(2, 0, 0);
         x.note(2, 46, 30);
         DUE.is("Promise 19: with what is uppermost later", x.whose(0, 4), 2);
         DUE.is("Promise 19: with what is uppermost later", x.whose(0, 1), 2);

@@ -27,6 +27,7 @@ public final class HostEdgesTest {
         notesThatAreNoneAreLeftOut();
         notesBehindFullAreLeftOut();
         notesThatStoodAheadCame();
+        notesThatCameAreThere();
         notesByEachSort();
         notesAreOfWhatASheetHolds();
         takenByEachKind();
@@ -372,6 +373,22 @@ public final class HostEdgesTest {
         DUE.is("Promise 31: from 13 on", x.notes(0, 1, 13, 10), OUTSIDE);
         DUE.is("Promise 31: nine stood ahead", x.count(1), 9);
         DUE.is("Promise 31: the next number", x.note(0, 0, 0), 9);
+    }
+
+    /** Whatever was asked ahead of their coming. */
+    private static void notesThatCameAreThere() {
+        KitchenTable x = new KitchenTable();
+        x.person(20, 24, 120);
+        Due.sheet(x, 0, 0, 2, 0, 0, 4, 0, 10, 2);
+        DUE.is("Promise 9: nothing yet", x.lies(20), 0);
+        DUE.is("Promise 31: one came", x.notes(0, 0, 0, 1), 1);
+        DUE.is("Promise 9: it lies there", x.lies(20), 1);
+        DUE.is("Promise 11: it is read", x.read(0, 0), 20);
+        DUE.is("Promise 31: one stood ahead of what is outside", x.notes(0, 0, 3, 2), OUTSIDE);
+        DUE.is("Promise 9: it lies there, too", x.lies(20), 3);
+        DUE.is("Promise 10: it is uppermost", x.top(20), 1);
+        DUE.is("Promise 31: none came", x.notes(0, 0, 6, 1), OUTSIDE);
+        DUE.is("Promise 9: no other", x.lies(20), 3);
     }
 
     private static void notesByEachSort() {

@@ -19,6 +19,7 @@ public final class MeaningEdgesTest {
         temperInDoAndTake();
         thingInDoAndTake();
         askedAndToldInDo();
+        aCrossedOneInDo();
         askedAndToldInTake();
         theFirstText();
         DUE.end();
@@ -169,7 +170,14 @@ public final class MeaningEdgesTest {
         x.note(2, 0, 20);
         x.note(1, 0, 0);
         DUE.rule(x, "do 0;take 0;care asked*10+told;");
-        DUE.is("Promise 16: what all of it ask and tell: 35 and 10", x.harm(), 45);
+        DUE.is("Promise 16: what all of it ask and tell: 30 and 5, 10 and 0", x.harm(), 45);
+
+        x = new KitchenTable();
+        for (int note = 0; note < 10; note++) {
+            x.note(note % 9 == 0 ? 3 : 4, 0, 0);
+        }
+        DUE.rule(x, "do 0;take 0;care asked*3+told*10;");
+        DUE.is("Promise 16: the first and the last of ten tell, eight ask", x.harm(), 48 + 40);
     }
 
     private static void hourInDoAndTake() {
@@ -255,6 +263,21 @@ public final class MeaningEdgesTest {
         DUE.rule(x, "do asked=1;take 1;care 0;");
         DUE.is("Promise 13: of its THING alone", x.done(2, 0), 41);
         DUE.is("Promise 13: of its THING alone", x.done(3, 0), 0);
+    }
+
+    /** A CROSSED one asks 0, not 1 less; it tells twice a TELLING's. */
+    private static void aCrossedOneInDo() {
+        KitchenTable x = new KitchenTable();
+        x.person(5, 24, 120);
+        x.note(2, 4, 0);
+        x.note(5, 4, 0);
+        x.note(5, 4, 10);
+        DUE.rule(x, "do asked=1 and told=2 or told=2 and asked=0;take 0;care 0;");
+        DUE.is("Promise 13: an ASKING and a CROSSED one", x.done(0, 0), 2);
+        DUE.is("Promise 13: a CROSSED one", x.done(1, 0), 2);
+        DUE.rule(x, "do asked<0;take asked<0;care 0;");
+        DUE.is("Promise 13: nothing asks less than 0", x.done(1, NONE), 0);
+        DUE.is("Promise 9: nothing asks less than 0", x.lies(5), 7);
     }
 
     /** Of the note alone, whatever others of its THING ask and tell. */

@@ -2,29 +2,37 @@ import java.util.Random;
 
 /** Runs of calls by chance (always the same ones), on the class and on the plain model: all answers are alike. */
 public final class ModelTest {
-    private static final int RUNS = 1500, CALLS = 200, NOTES_FOR_ORDERS = 7;
+    /** An object has at most 512 calls: a text or a whole sheet may come behind the last of MOST_USED. */
+    private static final int RUNS = 2000, CALLS = 200, MOST_USED = 260, NOTES_FOR_ORDERS = 7;
     private static final int[] EDGES = {-2, -1, 0, 1, 2, 3, 4, 5, 6, 9, 10, 11, 12, 13, 23, 24, 25, 39, 40, 41, 47, 48,
         129, 130, 160, 255, 256, 9999, 10000, Integer.MAX_VALUE, Integer.MAX_VALUE - 1, Integer.MIN_VALUE};
     private static final String[] PIECES = {"asked", "told", "hour", "who", "temper", "thing", "0", "1", "2", "9", "47",
         "9999", "+", "-", "*", "<", "=", "(", ")", "not ", " and ", " or ", " ", "\n", ";", "do ", "take ", "care ",
         "12345", "x", "@", "--", "((", "))", "not not ", "told<asked"};
 
+    private static final String[] TOKENS = {"3", "hour", "+", "-", "*", "<", "=", "(", ")", "not", "and", "or", ";", "do"};
+
     private static final Due DUE = new Due("ModelTest");
     private static final Random CHANCE = new Random(2026);
 
     private static KitchenTable x;
     private static PlainModel m;
+    /** How many calls the object has had, about. */
+    private static int used;
 
     public static void main(String[] args) {
         for (int run = 0; run < RUNS; run++) {
             x = new KitchenTable();
             m = new PlainModel();
+            used = 0;
             furnish();
-            for (int i = 0; i < CALLS; i++) {
+            for (int i = 0; i < CALLS && used < MOST_USED; i++) {
+                used++;
                 call(CHANCE.nextInt(32), run);
             }
         }
         texts();
+        allShortTexts("", 4);
         DUE.end();
     }
 
@@ -56,6 +64,7 @@ public final class ModelTest {
     }
 
     private static void feed(String bytes) {
+        used += bytes.length();
         for (int i = 0; i < bytes.length(); i++) {
             DUE.is("feed", x.feed(bytes.charAt(i)), m.feed(bytes.charAt(i)));
         }
@@ -120,6 +129,34 @@ public final class ModelTest {
                 DUE.is("lies by " + bytes, x.lies(5), m.lies(5));
                 DUE.is("harm by " + bytes, x.harm(), m.harm());
             }
+        }
+    }
+
+    /** Each row of so many tokens behind a do: whether it is an E, else where its fault is; and what it is worth. */
+    private static void allShortTexts(String e, int more) {
+        if (!e.isEmpty()) {
+            shortText(e);
+        }
+        for (int i = 0; i < TOKENS.length && more > 0; i++) {
+            allShortTexts(e + " " + TOKENS[i], more - 1);
+        }
+    }
+
+    private static void shortText(String e) {
+        x = new KitchenTable();
+        m = new PlainModel();
+        feed("do" + e + ";take 0;care" + e + ";");
+        int due = m.text();
+        DUE.is("text of" + e, x.text(), due);
+        if (due > 0) {
+            x.force(due);
+            m.force(due);
+            x.person(0, 7, 3);
+            m.person(0, 7, 3);
+            x.note(2, 0, 20);
+            m.note(2, 0, 20);
+            DUE.is("done by" + e, x.done(1, -1), m.done(1, -1));
+            DUE.is("harm by" + e, x.harm(), m.harm());
         }
     }
 
@@ -235,11 +272,14 @@ public final class ModelTest {
         int size = 1 + upTo(39), sort = upTo(2);
         x.sheet(0, sort, size);
         m.sheet(0, sort, size);
+        used += size;
         for (int hour = 0; hour < size; hour++) {
-            for (int bits = 0; m.came(0) == hour && bits < 32; bits++) {
-                x.cell(0, hour, bits);
+            int bits = 0;
+            while (m.came(0) == hour && bits < 32) {
+                bits++;
                 m.cell(0, hour, bits);
             }
+            x.cell(0, hour, bits);
         }
         int i = upTo(size), v = upTo(31);
         DUE.is(at + "cell", x.cell(0, i, v), m.cell(0, i, v));

@@ -170,6 +170,9 @@ public final class OrdersEdgesTest {
         odds(x, 0, 9, 0, 1);
         odds(with(2, 0, 1), 0, 1, 1, 1);
         odds(with(2, 0, 1), 1, 0, 0, 1);
+        odds(with(10, 0, 1), 0, 1, 1, 1);
+        odds(with(10, 0, 1), 1, 0, 0, 1);
+        odds(with(10, 0, 1, 1, 9), 9, 0, 0, 1);
     }
 
     private static void oddsIfThereAreNone() {

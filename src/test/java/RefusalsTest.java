@@ -106,7 +106,7 @@ public final class RefusalsTest {
 
     /** Blanks behind the text that stands on it. */
     private static void fillTape(KitchenTable x) {
-        while (x.count(4) < 160) {
+        for (int size = x.count(4); size < 160; size++) {
             x.feed(32);
         }
     }
@@ -180,7 +180,7 @@ public final class RefusalsTest {
     }
 
     private static void fillMarks(KitchenTable x) {
-        while (x.count(2) < 20) {
+        for (int marks = x.count(2); marks < 20; marks++) {
             x.mark(0, 3);
         }
     }

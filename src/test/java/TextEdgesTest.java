@@ -245,6 +245,11 @@ public final class TextEdgesTest {
         fault("do 1=2=3;", 6);
         fault("do 1<;", 5);
         fault("do <1;", 3);
+        fault("do 1<not 2;", 5);
+        fault("do 1=not 2;", 5);
+        fault("do not 1<2<3;", 10);
+        fault("do not 1=2<3;", 10);
+        fault("do not not 1<2=3;", 14);
         fault("do 1<=2;", 5);
         fault("do 1==2;", 5);
     }
@@ -327,8 +332,8 @@ public final class TextEdgesTest {
         DUE.is("Promise 7: FULL ahead of a fault", Due.text(x, "@"), FULL);
         DUE.is("Promise 7: the tape stays", x.count(4), 1);
         DUE.is("Promise 6: behind what stayed", x.feed('d'), 2);
-        while (x.count(4) < 160) {
-            x.feed(' ');
+        for (int size = 3; size <= 160; size++) {
+            DUE.is("Promise 6: behind what stayed", x.feed(' '), size);
         }
         DUE.is("Promise 7: FULL of a full tape", x.text(), FULL);
         DUE.is("Promise 6: FULL of a full tape", x.feed(' '), FULL);
