@@ -89,6 +89,9 @@ public final class TextEdgesTest {
         good(times("\n", 160 - text.length()) + text);
         fault(text + times(" ", 159 - text.length()) + "1", 159);
         fault(times(" ", 161 - text.length()) + text.substring(0, text.length() - 1), 160);
+        for (String sign : new String[] {"(", ")", ";", "+", "-", "*", "<", "="}) {
+            fault(times(sign, 160), 0);
+        }
         KitchenTable x = new KitchenTable();
         x.note(2, 47, 0);
         // -----1 is -1: 18 of these make 1, with ----1 and -1 it is -1, and care 40.
@@ -321,6 +324,16 @@ public final class TextEdgesTest {
         x.force(1);
         DUE.is("Promise 7: nothing of a fault's is in it", x.done(3, 0), 2);
         DUE.is("Promise 7: nothing of a fault's is in it", x.done(0, 0), 0);
+
+        x = new KitchenTable();
+        x.person(0, 24, 0);
+        for (int i = 0; i < 2; i++) {
+            DUE.is("Promise 7: a long fault", Due.text(x, "do " + times("-----1*", 21)), -250);
+        }
+        DUE.is("Promise 7: the first that is one", Due.text(x, "do thing = 3;take 0;care 0;"), 1);
+        x.force(1);
+        DUE.is("Promise 7: nothing of long ones is in it", x.done(3, 0), 2);
+        DUE.is("Promise 7: nothing of long ones is in it", x.done(0, 0), 0);
     }
 
     private static void fullIsAheadOfAll() {
