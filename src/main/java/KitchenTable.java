@@ -867,14 +867,22 @@ public final class KitchenTable {
             for (int i = part == DO ? 0 : ends[part - 1]; i < ends[part]; i++) {
                 int step = steps[i];
                 if (step < Tape.SIGNS_FROM) {
-                    stack[top] = step < Tape.NAMES_FROM ? step : facts[step - Tape.NAMES_FROM];
-                    top++;
+                    if (top < stack.length) {
+                        stack[top] = meant(step, facts);
+                        top++;
+                    }
                 } else if (top >= 2) {
                     top--;
                     stack[top - 1] = joined(step, stack[top - 1], stack[top]);
                 }
             }
             return top > 0 ? stack[top - 1] : 0;
+        }
+
+        /** What a number or a name stands for. */
+        private static int meant(int step, int[] facts) {
+            int name = step - Tape.NAMES_FROM;
+            return name >= 0 && name < facts.length ? facts[name] : step;
         }
 
         private static int joined(int sign, int a, int b) {
